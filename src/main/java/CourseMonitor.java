@@ -174,7 +174,7 @@ public final class CourseMonitor {
     }
 
     private boolean noRoomFor(int newKind) {
-        return stepCount >= MAX_STEPS || isTemporal(newKind) && temporalCount >= MAX_TEMPORAL;
+        return stepCount >= MAX_STEPS || (isTemporal(newKind) && temporalCount >= MAX_TEMPORAL);
     }
 
     private int makeUnary(int newKind) {
@@ -227,24 +227,21 @@ public final class CourseMonitor {
         return holdsForFirst(courseLength + 1);
     }
 
-    private boolean holdsFollowedByTwo(int first, int second) {
-        course[courseLength] = first;
-        course[courseLength + 1] = second;
-        return holdsForFirst(courseLength + 2);
-    }
-
     private int fewestFurther(boolean wanted) {
         if (holdsForFirst(courseLength) == wanted) {
             return 0;
         }
-        for (int facts = 0; facts < INSTANTS; facts++) {
-            if (holdsFollowedBy(facts) == wanted) {
+        for (int first = 0; first < INSTANTS; first++) {
+            course[courseLength] = first;
+            if (holdsForFirst(courseLength + 1) == wanted) {
                 return 1;
             }
         }
         for (int first = 0; first < INSTANTS; first++) {
+            course[courseLength] = first;
             for (int second = 0; second < INSTANTS; second++) {
-                if (holdsFollowedByTwo(first, second) == wanted) {
+                course[courseLength + 1] = second;
+                if (holdsForFirst(courseLength + 2) == wanted) {
                     return 2;
                 }
             }
@@ -287,7 +284,7 @@ public final class CourseMonitor {
     private int placesOfFact(int f, int n) {
         int set = 0;
         for (int i = 0; i < n; i++) {
-            set |= (course[i] >> f & 1) << i;
+            set |= ((course[i] >> f) & 1) << i;
         }
         return set;
     }
@@ -296,7 +293,7 @@ public final class CourseMonitor {
     private static int placesOfUntil(int x, int y, int n) {
         int set = 0;
         for (int i = n - 1; i >= 0; i--) {
-            set |= (y | x & set >> 1) & 1 << i;
+            set |= (y | (x & (set >> 1))) & (1 << i);
         }
         return set;
     }

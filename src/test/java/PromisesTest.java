@@ -134,10 +134,11 @@ public final class PromisesTest {
         Checks.due("6 empty after discard", m.next(), TOO_FEW);
         m.fact(0);
         Checks.due("6 counted anew after discard", m.next(), 1);
-        Checks.make(m, "XXXXX");
+        Checks.due("6 six more after discard", Checks.make(m, "XXXXX"), 1);
         m.define();
         m.fact(0);
-        Checks.due("6 counted anew after define", m.next(), 1);
+        Checks.due("6 six more after define", Checks.make(m, "XXXXXX"), 1);
+        Checks.due("6 and no seventh", m.next(), FULL);
         CourseMonitor full = Checks.made("0" + "!".repeat(15));
         Checks.due("6 full", full.next(), FULL);
         Checks.state("6 full", full, 1, 16, 0);
@@ -433,6 +434,8 @@ public final class PromisesTest {
         Checks.due("20 now, without instants", Checks.with("0!").soonest(), 0);
         Checks.due("20 one more", Checks.with("01U", 1).soonest(), 1);
         Checks.due("20 one more, without instants", Checks.with("01U").soonest(), 1);
+        Checks.due("20 one more, instant 0 alone", Checks.with("01|2|!X", 7).soonest(), 1);
+        Checks.due("20 one more, instant 7 alone", Checks.with("01&2&X", 0).soonest(), 1);
         Checks.due("20 two more", Checks.with("0XX", 0).soonest(), 2);
         Checks.due("20 two more, without instants", Checks.with("0X").soonest(), 2);
         Checks.due("20 two more, each of its own kind", Checks.with("01&2&X01|2|!XX&", 0).soonest(), 2);
@@ -450,6 +453,8 @@ public final class PromisesTest {
         Checks.due("21 now", Checks.with("0", 0).soonestNot(), 0);
         Checks.due("21 now, without instants", Checks.with("0").soonestNot(), 0);
         Checks.due("21 one more", Checks.with("01U!", 1).soonestNot(), 1);
+        Checks.due("21 one more, instant 0 alone", Checks.with("01|2|!X!", 7).soonestNot(), 1);
+        Checks.due("21 one more, instant 7 alone", Checks.with("01&2&X!", 0).soonestNot(), 1);
         Checks.due("21 two more", Checks.with("0XX!", 0).soonestNot(), 2);
         Checks.due("21 two more, each of its own kind", Checks.with("01&2&X01|2|!XX&!", 0).soonestNot(), 2);
         Checks.due("21 two more, the other way", Checks.with("01&2&XX01|2|!X&!", 0).soonestNot(), 2);
