@@ -1,3 +1,5 @@
+import java.util.Arrays;
+
 /** What the tests share: counting answers that are not due, and short spellings for formulas and courses. */
 final class Checks {
     private static int asked = 0;
@@ -16,6 +18,14 @@ final class Checks {
 
     static void due(String what, boolean got, boolean want) {
         due(what, got ? 1 : 0, want ? 1 : 0);
+    }
+
+    static void due(String what, String got, String want) {
+        asked++;
+        if (!got.equals(want)) {
+            wrong++;
+            System.out.println(what + " answered " + got + ", due is " + want);
+        }
     }
 
     static void finish() {
@@ -48,6 +58,8 @@ final class Checks {
     static CourseMonitor with(String formula, int... instants) {
         CourseMonitor m = new CourseMonitor();
         make(m, formula);
+        // A test that misspells its formula would ask about another one.
+        due("steps of " + formula, m.steps(), formula.length());
         m.define();
         for (int facts : instants) {
             m.step(facts);
@@ -59,6 +71,19 @@ final class Checks {
         CourseMonitor m = new CourseMonitor();
         make(m, letters);
         return m;
+    }
+
+    /** One with a formula in use, a course and formulas on the stack, so that a stray change to any of them shows. */
+    static CourseMonitor busy(String letters, int... instants) {
+        CourseMonitor m = with("12!U0X|", instants);
+        make(m, letters);
+        return m;
+    }
+
+    static int[] same(int facts, int length) {
+        int[] instants = new int[length];
+        Arrays.fill(instants, facts);
+        return instants;
     }
 
     /** A refused call must leave all of this as it was. */
