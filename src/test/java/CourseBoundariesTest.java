@@ -45,9 +45,11 @@ public final class CourseBoundariesTest {
         wouldHoldWithEachInstant();
         wouldHoldWithNoneOneAndAll();
         soonestLeast();
+        soonestWithEachPair();
         soonestNone();
         soonestBeyondTen();
         soonestNotLeast();
+        soonestNotWithEachPair();
         soonestNotNone();
         soonestNotBeyondTen();
         oneMoreThanTen();
@@ -453,6 +455,15 @@ public final class CourseBoundariesTest {
         return formula;
     }
 
+    /** The formula that the next instant has the facts first of 0 and 1, and the one after it the facts second. */
+    private static String onlyPair(int first, int second) {
+        return onlyOf01(first) + "X" + onlyOf01(second) + "XX&";
+    }
+
+    private static String onlyOf01(int facts) {
+        return "0" + ((facts & 1) != 0 ? "" : "!") + "1" + ((facts & 2) != 0 ? "" : "!") + "&";
+    }
+
     private static void soonest(String what, int want, String formula, int... instants) {
         Checks.due("20 " + what, Checks.with(formula, instants).soonest(), want);
     }
@@ -474,6 +485,17 @@ public final class CourseBoundariesTest {
             soonest("one more, only " + facts, 1, only(facts) + "X", 7 - facts);
             soonest("two more, only " + facts, 2, only(facts) + "XX", 7 - facts);
         }
+    }
+
+    // Promise 20: "there are k instants": any two of them, from the smallest to the greatest.
+    private static void soonestWithEachPair() {
+        for (int first = 0; first <= 3; first++) {
+            for (int second = 0; second <= 3; second++) {
+                soonest("two more, " + first + " and " + second, 2, onlyPair(first, second), 5);
+            }
+        }
+        soonest("two more, 0 and 7", 2, "01|2|!X" + "01&2&XX&", 5);
+        soonest("two more, 7 and 0", 2, "01&2&X" + "01|2|!XX&", 5);
     }
 
     // Promise 20: "NONE if there is none"
@@ -511,6 +533,17 @@ public final class CourseBoundariesTest {
             soonestNot("one more, only " + facts, 1, only(facts) + "X", 7 - facts);
             soonestNot("two more, only " + facts, 2, only(facts) + "XX", 7 - facts);
         }
+    }
+
+    // Promise 21: "there are k instants": any two of them, from the smallest to the greatest.
+    private static void soonestNotWithEachPair() {
+        for (int first = 0; first <= 3; first++) {
+            for (int second = 0; second <= 3; second++) {
+                soonestNot("two more, " + first + " and " + second, 2, onlyPair(first, second), 5);
+            }
+        }
+        soonestNot("two more, 0 and 7", 2, "01|2|!X" + "01&2&XX&", 5);
+        soonestNot("two more, 7 and 0", 2, "01&2&X" + "01|2|!XX&", 5);
     }
 
     // Promise 21: "NONE if there is none"

@@ -8,6 +8,7 @@ public final class ModelTest {
     private final CourseMonitor m = new CourseMonitor();
     private final Model model = new Model();
     private boolean parted = false;
+    private int lastFacts = 0;
     private final StringBuilder told = new StringBuilder();
 
     private ModelTest(int run) {
@@ -83,7 +84,9 @@ public final class ModelTest {
         } else if (choice < 7) {
             same("define()", m.define(), model.define());
         } else {
-            int facts = pickArgument(8);
+            // Where an instant is mostly like the one before, a long course leaves more formulas undecided.
+            int facts = flavour == 2 && pick(8) != 0 ? lastFacts : pickArgument(8);
+            lastFacts = facts & 7;
             same("step(" + facts + ")", m.step(facts), model.step(facts));
         }
     }

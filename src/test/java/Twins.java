@@ -39,6 +39,8 @@ final class Twins {
         tell(what + ", the top", one, other, m -> m.define() + meaning(m));
         // The formulas below the top show in what they make together with it.
         tell(what + ", the stack by and", one, other, m -> untilRefused(m::and) + m.define() + meaning(m));
+        tell(what + ", the stack by not and and", one, other,
+            m -> m.not() + untilRefused(m::and) + m.define() + meaning(m));
         tell(what + ", the stack by or", one, other, m -> untilRefused(m::or) + m.define() + meaning(m));
         tell(what + ", the stack by until", one, other, m -> untilRefused(m::until) + m.define() + meaning(m));
     }
